@@ -43,9 +43,10 @@ public final class JarCouncil {
     private final Day trialDay;
     private final Log log;
     private final Motions motions;
-    private boolean planned;
-    private int traced;
-    private int faulted;
+    /** Whether the plan is that of the course as it is now. */
+    private boolean planned = false;
+    private int traced = 0;
+    private int faulted = 0;
 
     public JarCouncil() {
         sheets = new Sheets();
@@ -59,9 +60,6 @@ public final class JarCouncil {
         trialDay = new Day(trialPlan);
         log = new Log();
         motions = new Motions(course, trialDay);
-        planned = false;
-        traced = 0;
-        faulted = 0;
     }
 
     // ---- rows

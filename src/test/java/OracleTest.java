@@ -158,12 +158,15 @@ public final class OracleTest {
 
     private void putText(String text) {
         int lane = below(3);
-        int from = below(101 - text.length());
-        ask("sheet", 3, lane, from + text.length());
-        for (int i = 0; i < text.length(); i++) {
-            x.put(3, from + i, text.charAt(i));
-            oracle.put(3, from + i, text.charAt(i));
+        int from = below(Math.min(4, 101 - text.length()));
+        int behind = below(Math.min(3, 101 - text.length() - from));
+        ask("sheet", 3, lane, from + text.length() + behind);
+        for (int i = 0; i < text.length() + behind; i++) {
+            int code = i < text.length() ? text.charAt(i) : '0' + below(10);
+            x.put(3, from + i, code);
+            oracle.put(3, from + i, code);
         }
+        ask("council", 3, lane, from, below(text.length() + behind + 1));
         ask("council", 3, lane, from, text.length());
     }
 

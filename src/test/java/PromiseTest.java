@@ -33,6 +33,7 @@ public final class PromiseTest {
     private void theCouncil() {
         promise1();
         promise2Texts();
+        promise2Parts();
         promise2Refusals();
         promise2MakesAnew();
         promises3And4();
@@ -102,6 +103,26 @@ public final class PromiseTest {
         text("j20;l1;pw0111w0111w0111w0111", -123);
         text("j20;l1;pw0111;pw0111;pw0111;pw0111;pw0111;pw0111", -141);
         text("j20;l1;pw0111;pw0111;pw0111;pw0111;pw0111w", -142);
+    }
+
+    /** Cells behind the n that are told are no part of the text. */
+    private void promise2Parts() {
+        JarCouncil x = Checks.of(SCARCE);
+        int whole = SCARCE.length();
+        for (int n = 0; n < whole; n++) {
+            due("2 the first " + n, x.council(3, 2, 0, n), -100 - n);
+        }
+        due("2 without the first", x.council(3, 2, 1, whole - 1), -100);
+        due("2 the whole", x.council(3, 2, 0, whole), 2);
+        for (int lane = 0; lane < 3; lane++) {
+            x.sheet(0, lane, 60);
+            for (int i = 0; i < THREE.length(); i++) {
+                x.put(0, 7 + i, THREE.charAt(i) + (lane == 0 ? 256 : lane == 1 ? 65536 : 0));
+            }
+            due("2 by lane " + lane, x.council(0, lane, 7, THREE.length()), 3);
+        }
+        x.put(0, 7, 'j' + 256);
+        due("2 another code of an int", x.council(0, 2, 7, THREE.length()), -100);
     }
 
     private void promise2Refusals() {
