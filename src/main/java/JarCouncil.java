@@ -51,7 +51,7 @@ public final class JarCouncil {
     public JarCouncil() {
         sheets = new Sheets();
         people = new People();
-        reader = new Reader(sheets, new People());
+        reader = new Reader(sheets.cells, new People());
         course = new Course(people);
         plan = new Plan(course);
         today = new Day(plan);
@@ -105,7 +105,7 @@ public final class JarCouncil {
         if (refusal != 0) {
             return told(refusal);
         }
-        int place = reader.firstFault(sheet, i, n);
+        int place = reader.firstFault(Sheets.placeOf(sheet, i), n);
         if (place >= 0) {
             return told(FAULTY_TEXT - place);
         }
@@ -251,7 +251,8 @@ public final class JarCouncil {
         if (!course.hasTurn(turn)) {
             return UNKNOWN;
         }
-        goFreely();
+        planAhead();
+        today.goFreely();
         return today.saidIn(turn);
     }
 
@@ -259,7 +260,8 @@ public final class JarCouncil {
         if (!course.hasTurn(turn)) {
             return UNKNOWN;
         }
-        goFreely();
+        planAhead();
+        today.goFreely();
         return today.waterIn(turn);
     }
 
@@ -267,7 +269,8 @@ public final class JarCouncil {
         if (!people.has(k)) {
             return UNKNOWN;
         }
-        goFreely();
+        planAhead();
+        today.goFreely();
         return worthIn(today.worths, k);
     }
 
@@ -289,11 +292,6 @@ public final class JarCouncil {
             plan.makeForEach();
             planned = true;
         }
-    }
-
-    private void goFreely() {
-        planAhead();
-        today.goFreely();
     }
 
     // ---- 4 thanks, orders
@@ -424,17 +422,16 @@ public final class JarCouncil {
         if (people.count == 0) {
             return STATE;
         }
-        return v == -1 ? bestLaw() : worthUnder(v);
-    }
-
-    private int bestLaw() {
+        if (v >= 0) {
+            return worthUnder(v);
+        }
         int best = 0;
         int most = worthUnder(0);
-        for (int v = 1; v < LAWS; v++) {
-            int all = worthUnder(v);
+        for (int other = 1; other < LAWS; other++) {
+            int all = worthUnder(other);
             if (all > most) {
                 most = all;
-                best = v;
+                best = other;
             }
         }
         return best;
@@ -452,7 +449,8 @@ public final class JarCouncil {
         if (!people.has(k) || which != 0 && which != 1) {
             return LOST;
         }
-        goFreely();
+        planAhead();
+        today.goFreely();
         int upper = today.runAwayBy(k);
         int lower = people.jar;
         int part = commonPart(upper, lower);
@@ -659,15 +657,19 @@ public final class JarCouncil {
             return laneOf(k) == NOTHING;
         }
 
+        private static int placeOf(int k, int i) {
+            return k * MOST + i;
+        }
+
         private int valueAt(int k, int i) {
-            return at(cells, k * MOST + i);
+            return at(cells, placeOf(k, i));
         }
 
         private void renew(int k, int lane, int n) {
             set(lanes, k, lane);
             set(sizes, k, n);
             for (int i = 0; i < MOST; i++) {
-                set(cells, k * MOST + i, 0);
+                set(cells, placeOf(k, i), 0);
             }
         }
 
@@ -679,7 +681,7 @@ public final class JarCouncil {
         }
 
         private void store(int k, int i, int v) {
-            set(cells, k * MOST + i, cutTo(laneOf(k), v));
+            set(cells, placeOf(k, i), cutTo(laneOf(k), v));
         }
 
         private static int cutTo(int lane, int v) {
@@ -694,7 +696,7 @@ public final class JarCouncil {
             boolean backwards = j > i;
             for (int done = 0; done < n && done < MOST; done++) {
                 int step = backwards ? n - 1 - done : done;
-                set(cells, other * MOST + j + step, valueAt(k, i + step));
+                set(cells, placeOf(other, j + step), valueAt(k, i + step));
             }
         }
 
@@ -841,30 +843,37 @@ public final class JarCouncil {
 
     /** Reads a text into a draft, so that a faulty one changes nothing. */
     private static final class Reader {
-        private final Sheets sheets;
+        private static final int NO_FAULT = -1;
+        private final int[] cells;
         private final People draft;
-        private int sheet = 0;
         private int from = 0;
         private int size = 0;
         private int next = 0;
-        private int fault = -1;
+        private int fault = NO_FAULT;
 
-        private Reader(Sheets sheets, People draft) {
-            this.sheets = sheets;
+        private Reader(int[] cells, People draft) {
+            this.cells = cells;
             this.draft = draft;
         }
 
         /** The place of the first fault, or -1: then the draft has all that the text tells. */
-        private int firstFault(int k, int i, int n) {
-            sheet = k;
-            from = i;
+        private int firstFault(int start, int n) {
+            from = start;
             size = n;
             next = 0;
-            fault = -1;
-            if (readJar()) {
-                readSpeakers();
+            fault = NO_FAULT;
+            if (!readJar()) {
+                return fault;
             }
-            return fault;
+            for (int k = 0; k < MOST_SPEAKERS; k++) {
+                if (k >= FEWEST_SPEAKERS && next >= size) {
+                    return NO_FAULT;
+                }
+                if (!readSign(';') || !readSpeaker()) {
+                    return fault;
+                }
+            }
+            return next < size ? next : NO_FAULT;
         }
 
         private boolean readJar() {
@@ -878,20 +887,6 @@ public final class JarCouncil {
             int runs = readDigit();
             draft.begin(drops, runs);
             return runs >= 0;
-        }
-
-        private void readSpeakers() {
-            for (int k = 0; k < MOST_SPEAKERS; k++) {
-                if (k >= FEWEST_SPEAKERS && next >= size) {
-                    return;
-                }
-                if (!readSign(';') || !readSpeaker()) {
-                    return;
-                }
-            }
-            if (next < size) {
-                fault = next;
-            }
         }
 
         private boolean readSpeaker() {
@@ -961,7 +956,7 @@ public final class JarCouncil {
         }
 
         private int readDigit() {
-            int code = sheets.valueAt(sheet, from + next);
+            int code = at(cells, from + next);
             if (next >= size || code < '0' || code > '9') {
                 fault = next;
                 return -1;
@@ -980,7 +975,7 @@ public final class JarCouncil {
         }
 
         private boolean isNext(int sign) {
-            return next < size && sheets.valueAt(sheet, from + next) == sign;
+            return next < size && at(cells, from + next) == sign;
         }
     }
 
@@ -1028,7 +1023,7 @@ public final class JarCouncil {
         }
 
         private int whoIn(int turn) {
-            return whoAt(turn < people.count ? turn : 0);
+            return at(order, turn < people.count ? turn : 0);
         }
 
         private int placeOf(int k) {

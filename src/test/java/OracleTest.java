@@ -175,9 +175,11 @@ public final class OracleTest {
         checks.due("run " + run + ": " + name + Arrays.toString(a), answer(name, a), oracle.ask(name, a));
     }
 
-    /** Texts alone: each prefix, and many broken ones. */
+    /** Texts alone: each prefix, each code in each place, and many broken ones. */
     private void texts() {
         run = RUNS;
+        eachCodeInEachPlace("j20;l1;pw0553;tw0592w1099w6011;ow0199");
+        eachCodeInEachPlace("j09;l9;pw1000;pw1000;pw1000;pw1000;pw1000w5900");
         for (int t = 0; t < 400; t++) {
             x = new JarCouncil();
             oracle = new Oracle();
@@ -186,6 +188,28 @@ public final class OracleTest {
             putText(broken(text));
             putText(broken(broken(text)));
         }
+    }
+
+    private void eachCodeInEachPlace(String text) {
+        String codes = "jlptow;0123456789:/ x";
+        for (int place = 0; place <= text.length(); place++) {
+            String ahead = text.substring(0, place);
+            String behind = text.substring(Math.min(place + 1, text.length()));
+            textAlone(ahead);
+            textAlone(ahead + behind);
+            for (char code : codes.toCharArray()) {
+                textAlone(ahead + code);
+                textAlone(ahead + code + behind);
+                textAlone(ahead + code + text.substring(place));
+            }
+        }
+    }
+
+    private void textAlone(String text) {
+        int fault = Oracle.firstFault(text);
+        int answer = Checks.council(new JarCouncil(), text);
+        boolean due = fault < 0 ? answer >= 2 : answer == -100 - fault;
+        checks.due("text " + text + " answered " + answer + ", at fault in " + fault, due ? 1 : 0, 1);
     }
 
     private long answer(String name, int[] a) {
