@@ -368,6 +368,14 @@ public final class EdgeTest {
         due("9 the least jar", x.choice(0, 1), 0);
         due("9 more than the least jar", x.choice(0, 2), -2);
         due("9 never enough", x.choice(1, 1), NONE);
+        x = Checks.of("j99;l0;pw0110w5090;pw0110w5090;pw0110w5090;pw0110w5090;pw0110w5090");
+        x.law(3);
+        for (int turn = 0; turn < 6; turn++) {
+            for (int water = 0; water <= 99; water++) {
+                int due = water >= 50 ? 1 : water >= 1 ? 0 : NONE;
+                due("9 six turns, turn " + turn + " water " + water, x.choice(turn, water), due);
+            }
+        }
     }
 
     /** Of several a PLAIN one the longest, a THRIFTY one the shortest (NOTHING: 0); the least number. */
@@ -476,6 +484,21 @@ public final class EdgeTest {
         due("13 all of the largest", x.together(-1), 6 * 45);
         due("13 all of the largest, the first", x.together(0), 2);
         due("13 all of the largest, the last", x.together(5), 2);
+        mostWays();
+    }
+
+    /** There is water for each word in each turn: as many ways to go on as there can be. */
+    private void mostWays() {
+        JarCouncil x = Checks.of("j99;l0;pw0101w0201w0399;pw0101w0201w0399;pw0101w0201w0399"
+                + ";pw0101w0201w0399;pw0101w0201w0399");
+        x.law(3);
+        due("21 each says the dearest", x.byLaw(3), 6 * 45);
+        due("13 each says the dearest", x.together(-1), 6 * 45);
+        for (int turn = 0; turn < 6; turn++) {
+            due("13 turn " + turn, x.together(turn), 2);
+        }
+        due("16 each says the dearest now", x.motion(0, 2, -1), 0);
+        due("16 nobody says another one", x.motion(0, 0, -1), NONE);
     }
 
     // ---- 4 thanks
