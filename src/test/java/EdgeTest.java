@@ -161,6 +161,29 @@ public final class EdgeTest {
             x.put(0, 5, -48);
             due("2 a code below 0", x.council(0, lane, 0, LARGEST.length()), -105);
         }
+        codesOfWideCells();
+    }
+
+    /** A code is the whole cell: its last eight or sixteen bits alone are none. */
+    private void codesOfWideCells() {
+        String text = "j20;l1;pw0553;tw0592w1099;ow0199";
+        JarCouncil x = new JarCouncil();
+        fill(x, 0, 2, 0, text);
+        fill(x, 1, 1, 0, text);
+        for (int i = 0; i < text.length(); i++) {
+            x.put(0, i, text.charAt(i) + 65536);
+            due("2 an int's last sixteen bits in " + i, x.council(0, 2, 0, text.length()), -100 - i);
+            x.put(0, i, text.charAt(i));
+            x.put(1, i, text.charAt(i) + 256);
+            due("2 a short's last eight bits in " + i, x.council(1, 1, 0, text.length()), -100 - i);
+            x.put(1, i, text.charAt(i));
+            if (i % 8 == 7) {
+                x = new JarCouncil();
+                fill(x, 0, 2, 0, text);
+                fill(x, 1, 1, 0, text);
+            }
+        }
+        due("2 all put right", x.council(0, 2, 0, text.length()), 3);
     }
 
     private static void fill(JarCouncil x, int sheet, int lane, int from, String text) {
@@ -190,20 +213,50 @@ public final class EdgeTest {
         due("2 log anew", x.many(5), 0);
         due("2 trace stays", x.trace(), 4);
         due("2 sheets stay", x.cell(2, 5, 2), 0);
+        due("2 what they say", x.says(1), 0);
+        due("16 in which order", x.motion(1, 0, -1), 0);
         due("2 fewer speakers", Checks.council(x, SECOND), 2);
         due("2 what they say", x.says(1), 1);
+        due("16 in which order", x.motion(1, 0, -1), NONE);
         due("2 more speakers", Checks.council(x, FIVE), 5);
         due("2 what they say", x.says(1), 0);
+        due("16 in which order", x.motion(1, 0, -1), 0);
     }
 
     // ---- 2 days
 
     private void days() {
+        wordsOfWhoSpeaksThen();
         justEnough();
         leaks();
         halves();
         evenParts();
         sixTurns();
+    }
+
+    /** UNKNOWN: a WORD of who speaks then: in each TURN, by ORDER, behind one who is cut off, too. */
+    private void wordsOfWhoSpeaksThen() {
+        eachWord("7", 0, 0, 1, 2, 3, 1, 2, 1);
+        eachWord("7 in another order", 0, 2, 3, 2, 1, 1, 2, 3);
+    }
+
+    /** By LAW 3; two change places; then how many words there are in each turn. */
+    private void eachWord(String what, int k, int j, int... words) {
+        for (int turn = 0; turn < words.length; turn++) {
+            JarCouncil x = Checks.of("j10;l0;pw6011;pw0111w0211;pw0111w0211w0311;pw0111;pw0111w0211");
+            x.law(3);
+            x.swap(k, j);
+            Checks.row(x, 2, 0, 0, 0, 0, 0, 0);
+            for (int word = -1; word <= 3; word++) {
+                x.put(2, turn, word);
+                boolean is = word >= 0 && word < words[turn];
+                String which = what + " word " + word + " in turn " + turn;
+                due(which, x.judge(2, 2, 0, 6, 9), is ? -2 : -1);
+                due(which, Math.min(0, x.worthOf(2, 2, 0, 6, 4)), is ? 0 : -1);
+                due(which, x.day(2, 2, 0, -1), is ? -2 : -1);
+                due(which + " that is not told", x.judge(2, 2, 0, turn, 9), -2);
+            }
+        }
     }
 
     private void judged(String what, JarCouncil x, int from, int n, int heard, int cut, int water) {
@@ -342,6 +395,8 @@ public final class EdgeTest {
         due("10 before", x.says(0), NONE);
         x.swap(0, 1);
         due("10 behind a swap", x.says(0), 1);
+        due("12 behind a swap", x.worth(0), 1);
+        due("12 behind a swap", x.worth(1), 2);
         x.swap(1, 0);
         due("12 behind a swap", x.worth(0), 1);
         x.law(1);
@@ -368,9 +423,9 @@ public final class EdgeTest {
         due("9 the least jar", x.choice(0, 1), 0);
         due("9 more than the least jar", x.choice(0, 2), -2);
         due("9 never enough", x.choice(1, 1), NONE);
-        x = Checks.of("j99;l0;pw0110w5090;pw0110w5090;pw0110w5090;pw0110w5090;pw0110w5090");
-        x.law(3);
         for (int turn = 0; turn < 6; turn++) {
+            x = Checks.of("j99;l0;pw0110w5090;pw0110w5090;pw0110w5090;pw0110w5090;pw0110w5090");
+            x.law(3);
             for (int water = 0; water <= 99; water++) {
                 int due = water >= 50 ? 1 : water >= 1 ? 0 : NONE;
                 due("9 six turns, turn " + turn + " water " + water, x.choice(turn, water), due);
@@ -466,6 +521,11 @@ public final class EdgeTest {
         due("13 no word is heard: 0", x.together(-1), 0);
         due("13 no word is heard: nothing", x.together(0), NONE);
         due("13 no word is heard: nothing", x.together(1), NONE);
+        x = Checks.of("j10;l0;pw0611;ow0692");
+        due("13 by order: the second one's word", x.together(1), 0);
+        x.swap(0, 1);
+        due("13 by the other order: the first one's word", x.together(0), 0);
+        due("13 by the other order: nothing is left", x.together(1), NONE);
         x = Checks.of("j20;l0;pw0401w0110w0210;pw0101");
         due("13 of even sums the least number", x.together(0), 0);
         x = Checks.of("j12;l2;pw0311;pw0311");
@@ -533,6 +593,11 @@ public final class EdgeTest {
         x.law(1);
         due("14 law 1: each has his own", x.owed(0, 1), 0);
         due("15 law 1: the other one can't", x.bargain(0, 1), -9);
+        // The other one waits if there is water for one word alone: 18 and 2; else both speak: 10 and 1.
+        x = Checks.of("j10;l0;pw0591;pw0501");
+        x.law(3);
+        due("15 law 3, silent in his first turn", x.bargain(0, 1), 11 - 20);
+        due("14 law 3, silent in his first turn", x.owed(0, 1), 1 - 2);
         x = Checks.of("j99;l0;pw0109;pw0109;pw0109;pw0109;pw0190");
         due("14 the most that he'd lose", x.owed(0, 1), -9);
         x.law(3);
@@ -580,6 +645,11 @@ public final class EdgeTest {
         x = Checks.of("j10;l0;pw0990w0110;pw0890");
         motioned("16 the first word", x, 0, 0, 0, 0, 1);
         motioned("16 the second word", x, 0, 1, 2, 1, 0);
+        // By LAW 3 he says his second word in his second turn.
+        x = Checks.of("j10;l0;pw0619w0110;pw0990");
+        motioned("16 the second word, law 0", x, 0, 1, 2, 1, 0);
+        x.law(3);
+        motioned("16 the second word, law 3", x, 0, 1, 0, 0, 1);
         x = Checks.of("j10;l0;pw0110w0190;ow0111");
         motioned("16 a word that is never the best", x, 0, 0, NONE, NONE, NONE);
         motioned("16 an old one's", x, 1, 0, NONE, NONE, NONE);
@@ -625,6 +695,14 @@ public final class EdgeTest {
         due("17 law 3, first turn", x.dry(1, 0), 1);
         x.swap(0, 1);
         due("17 law 3, he has spoken", x.dry(1, 0), 0);
+        // He says 6 of 10 first, and 1 of the 4 that are left, if the other one doesn't say 4 of them.
+        x = Checks.of("j10;l0;pw0619w0110;ow0411");
+        x.law(3);
+        due("17 law 3, the word of his second turn", x.dry(0, 1), 2);
+        due("17 law 3, the word of his first turn", x.dry(0, 0), 0);
+        x = Checks.of("j10;l0;pw0619w0110;ow0311");
+        x.law(3);
+        due("17 law 3, just enough for his second turn", x.dry(0, 1), 0);
     }
 
     // ---- 5 the log
@@ -647,6 +725,8 @@ public final class EdgeTest {
         due("20 the first", x.guess(1), 0);
         due("18 a seventh one", x.day(2, 2, 0, 40), -4);
         due("18 a seventh one's fault", x.fault(), 0);
+        due("7 a day that is judged", x.judge(2, 2, 0, 3, 0), 0);
+        due("8 a day that is judged", x.worthOf(2, 2, 0, 3, 0), 0);
         due("33 still six", x.many(5), 6);
         due("18 end ahead of full", x.day(2, 2, 0, -1), -2);
         x.put(2, 0, 1);
@@ -916,6 +996,13 @@ public final class EdgeTest {
             }
         }
         due("31 as leaves nothing", x.trace(), trace);
+        x.swap(0, 2);
+        x.swap(1, 3);
+        for (int k = 0; k < 5; k++) {
+            due("28 told in another order", x.tell(k), tells[k]);
+            due("29 called in another order", x.call(k), calls[k]);
+            due("30 as an old one in another order", x.as(k, 2), k == 2 ? 1 : -12);
+        }
         x = Checks.of("j99;l0;ow0111;ow0111");
         // 31 to the seventh power is above the most that an int holds.
         long wide = 0;

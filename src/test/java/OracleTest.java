@@ -3,7 +3,7 @@ import java.util.Random;
 
 /** Drawn runs of calls, always the same ones, answered by the class and by the oracle. */
 public final class OracleTest {
-    private static final int RUNS = 300;
+    private static final int RUNS = 500;
     private static final int CALLS = 512;
     private static final int[] WILD = {Integer.MIN_VALUE, Integer.MAX_VALUE, -10, -9, -3, -2, -1, 6, 7, 99, 100, 101};
 
@@ -81,7 +81,7 @@ public final class OracleTest {
             ask("worthOf", sheet, lane, from, n, near(6));
         }
         long end = oracle.ask("judge", new int[] {sheet, lane, from, turns, 2});
-        x.judge(sheet, lane, from, turns, 2);
+        ask("judge", sheet, lane, from, turns, 2);
         ask("day", sheet, lane, from, below(4) > 0 && end >= 0 ? (int) end : near(100));
         ask("guess", near(2));
         ask("guess", 0);
@@ -163,14 +163,17 @@ public final class OracleTest {
         ask("sheet", 3, lane, from + text.length() + behind);
         for (int i = 0; i < text.length() + behind; i++) {
             int code = i < text.length() ? text.charAt(i) : '0' + below(10);
-            x.put(3, from + i, code);
-            oracle.put(3, from + i, code);
+            ask("put", 3, from + i, code);
         }
         ask("council", 3, lane, from, below(text.length() + behind + 1));
         ask("council", 3, lane, from, text.length());
     }
 
+    /** What later calls answer is free: so they are not asked. */
     private void ask(String name, int... a) {
+        if (calls >= CALLS) {
+            return;
+        }
         calls++;
         checks.due("run " + run + ": " + name + Arrays.toString(a), answer(name, a), oracle.ask(name, a));
     }
@@ -183,6 +186,7 @@ public final class OracleTest {
         for (int t = 0; t < 400; t++) {
             x = new JarCouncil();
             oracle = new Oracle();
+            calls = 0;
             String text = drawText();
             putText(text.substring(0, t % (text.length() + 1)));
             putText(broken(text));

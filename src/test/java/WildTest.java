@@ -84,7 +84,7 @@ public final class WildTest {
         JarCouncil y = new JarCouncil();
         Checks.council(y, TEXTS[0]);
         y.law(3);
-        int used = TEXTS[0].length() + 3;
+        int used = TEXTS[0].length() + 3 + 5;
         int changes = 0;
         while (used + 3 < CALLS) {
             y.swap(changes % 5, (changes + 1) % 5);
