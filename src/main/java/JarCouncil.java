@@ -2,9 +2,13 @@
  * A council that speaks while water runs out of a jar: who is heard, what each says if all look to
  * themselves, what all together would say, and what follows from it.
  *
- * No call makes an object: all rows are made once, with the council, and used again. Rows are read
- * and written by at(), set(), longAt() and setLong() alone, which look at the place first, so that
- * no place outside a row is ever touched.
+ * So that nothing is ever thrown, and no call is dear:
+ * No call makes an object: all rows are made once, with the council, and used again.
+ * Rows are read and written by at(), set(), longAt() and setLong() alone, which look at the place
+ * first, so that no place outside a row is ever touched.
+ * A divisor is a constant, or is tested in its method.
+ * Calls go at most eight deep, and none comes back to itself.
+ * All loops count.
  */
 public final class JarCouncil {
     public static final int UNKNOWN = -1, OUTSIDE = -2, STATE = -3, FULL = -4, NONE = -9;

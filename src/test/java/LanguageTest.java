@@ -1,28 +1,54 @@
+import com.sun.source.tree.AssertTree;
+import com.sun.source.tree.BinaryTree;
+import com.sun.source.tree.BlockTree;
+import com.sun.source.tree.ClassTree;
+import com.sun.source.tree.DoWhileLoopTree;
+import com.sun.source.tree.ExpressionTree;
+import com.sun.source.tree.ForLoopTree;
+import com.sun.source.tree.ImportTree;
+import com.sun.source.tree.LambdaExpressionTree;
+import com.sun.source.tree.MemberReferenceTree;
+import com.sun.source.tree.MethodInvocationTree;
+import com.sun.source.tree.MethodTree;
+import com.sun.source.tree.SynchronizedTree;
+import com.sun.source.tree.ThrowTree;
+import com.sun.source.tree.Tree;
+import com.sun.source.tree.TryTree;
+import com.sun.source.tree.WhileLoopTree;
+import com.sun.source.util.TreePath;
 import java.io.IOException;
 import java.lang.reflect.Constructor;
 import java.lang.reflect.Field;
 import java.lang.reflect.Method;
 import java.lang.reflect.Modifier;
-import java.nio.file.Files;
-import java.nio.file.Path;
 import java.util.HashSet;
 import java.util.List;
+import java.util.Map;
 import java.util.Set;
 import java.util.TreeSet;
-import java.util.regex.Matcher;
-import java.util.regex.Pattern;
+import javax.lang.model.element.Element;
 
 /** The public face, and the rules of LANGUAGE.md that can be read off the class and its source. */
 public final class LanguageTest {
-    private static final Path SOURCE = Path.of("src/main/java/JarCouncil.java");
     /** Each call with how many ints it takes; a star: it answers a long. */
     private static final String FACE = "council4 ofSpeaker2 ofWord3 law1 swap2 judge5 worthOf5 choice2 says1 water1"
             + " worth1 together1 owed2* bargain2* motion3 dry2 day4 back1 guess1 byLaw1 share2* sheet3 lose1 put3"
             + " cell3* copy5 tell1 call1 as2 trace0 fault0 many1";
     private static final String CONSTANTS = "UNKNOWN=-1 OUTSIDE=-2 STATE=-3 FULL=-4 NONE=-9"
             + " LOST=-9223372036854775808";
-    private static final List<String> FORBIDDEN = List.of("throw", "throws", "try", "catch", "finally",
-            "synchronized", "assert", "import", "package", "protected");
+    private static final List<String> IMPORTS = List.of("java.util.ArrayList", "java.util.List", "java.util.Arrays",
+            "java.util.Iterator");
+    /** Of each class of the library what may be called; none named: all over numbers. */
+    private static final Map<String, List<String>> LIBRARY = Map.ofEntries(
+            entry("String", "<init> length charAt isEmpty equals indexOf substring toCharArray"),
+            entry("StringBuilder", "<init> append charAt setCharAt setLength deleteCharAt reverse length toString"),
+            entry("ArrayList", "<init> add get set remove size isEmpty clear"),
+            entry("List", "add get set remove size isEmpty clear of"),
+            entry("Iterator", "hasNext next"), entry("Iterable", "iterator"), entry("Comparable", "compareTo"),
+            entry("System", "arraycopy"), entry("Arrays", "copyOf copyOfRange fill"),
+            entry("Array", "clone"), entry("Object", "<init> clone"), entry("Enum", "ordinal"),
+            entry("Integer", ""), entry("Long", ""), entry("Math", ""));
+    private static final int MOST_LINES = 70, MOST_TAKEN = 7, MOST_FIELDS = 20, MOST_CLASSES = 12;
 
     private final Checks checks = new Checks("LanguageTest");
 
@@ -32,15 +58,32 @@ public final class LanguageTest {
         test.constants();
         test.members(JarCouncil.class);
         for (Class<?> inside : JarCouncil.class.getDeclaredClasses()) {
-            test.inside(inside);
+            test.holds(inside + " is static", Modifier.isStatic(inside.getModifiers()));
+            test.members(inside);
         }
-        test.source(withoutComments(Files.readString(SOURCE)));
+        Source source = new Source();
+        test.holds("signs are of the common ones", source.hasCommonSignsAlone());
+        Rules rules = test.new Rules(source);
+        rules.scan(source.unit(), null);
+        test.holds("some twelve classes at most", rules.classes <= MOST_CLASSES);
         test.checks.finish();
+    }
+
+    private static Map.Entry<String, List<String>> entry(String name, String calls) {
+        return Map.entry(name, calls.isEmpty() ? List.of() : List.of(calls.split(" ")));
+    }
+
+    private static boolean isListed(String owner, String name) {
+        List<String> calls = LIBRARY.get(owner);
+        boolean isAnyNumber = calls != null && calls.isEmpty() && !name.endsWith("Exact") && !name.equals("random");
+        return isAnyNumber || calls != null && calls.contains(name);
     }
 
     private void holds(String what, boolean so) {
         checks.due(what, so ? 1 : 0, 1);
     }
+
+    // ---- rules 1, 5 and 11, by what the class has
 
     private void face() {
         Set<String> calls = new TreeSet<>();
@@ -81,12 +124,6 @@ public final class LanguageTest {
         holds("constants " + constants, constants.equals(new TreeSet<>(List.of(CONSTANTS.split(" ")))));
     }
 
-    private void inside(Class<?> inside) {
-        holds(inside + " is static", Modifier.isStatic(inside.getModifiers()));
-        holds(inside + " is not seen", Modifier.isPrivate(inside.getModifiers()));
-        members(inside);
-    }
-
     private void members(Class<?> owner) {
         Set<String> names = new HashSet<>();
         for (Method m : JarCouncil.class.getDeclaredMethods()) {
@@ -100,89 +137,129 @@ public final class LanguageTest {
             holds(f + " is a constant, or of the object", !isStatic || Modifier.isFinal(f.getModifiers()));
             fields += isStatic ? 0 : 1;
         }
-        holds(owner + " has some twenty fields at most", fields <= 20);
+        holds(owner + " has some twenty fields at most", fields <= MOST_FIELDS);
         for (Method m : owner.getDeclaredMethods()) {
-            holds(m + " takes seven at most", m.getParameterCount() <= 7);
+            holds(m + " takes seven at most", m.getParameterCount() <= MOST_TAKEN);
             holds(m + " bears no public name",
-                    Modifier.isPublic(m.getModifiers()) || !names.contains(m.getName()));
+                    !Modifier.isPrivate(m.getModifiers()) || !names.contains(m.getName()));
         }
     }
 
-    private void source(String source) {
-        for (String word : FORBIDDEN) {
-            holds("no " + word, !Pattern.compile("\\b" + word + "\\b").matcher(source).find());
-        }
-        holds("no lambda", !source.contains("->"));
-        holds("no method reference", !source.contains("::"));
-        holds("no text", !source.contains("\""));
-        holds("no annotation", !source.contains("@"));
-        holds("no library but one constant", !Pattern.compile("\\b(System|Math|Arrays|String|Integer)\\b")
-                .matcher(source.replace("Long.MIN_VALUE", "")).find());
-        holds("signs are of the common ones", source.chars().allMatch(c -> c < 127));
-        oneClassPerRow(source);
-        placesAreLookedAt(source);
-        divisors(source);
-        methodsAreShort(source);
-        objectsAreMadeInConstructorsAlone(source);
-    }
+    // ---- rules 2, 4, 5, 6, 9, 10 and 11, by the source
 
-    private void oneClassPerRow(String source) {
-        int classes = 0;
-        Matcher m = Pattern.compile("\\bclass\\b").matcher(source);
-        while (m.find()) {
+    private final class Rules extends Source.Walk {
+        private final Source source;
+        private int classes = 0;
+
+        private Rules(Source source) {
+            this.source = source;
+        }
+
+        private Void never(Tree tree) {
+            holds(source.lineOf(tree) + ": no " + tree.getKind(), false);
+            return null;
+        }
+
+        @Override
+        public Void visitThrow(ThrowTree tree, Void none) {
+            return never(tree);
+        }
+
+        @Override
+        public Void visitTry(TryTree tree, Void none) {
+            return never(tree);
+        }
+
+        @Override
+        public Void visitSynchronized(SynchronizedTree tree, Void none) {
+            return never(tree);
+        }
+
+        @Override
+        public Void visitAssert(AssertTree tree, Void none) {
+            return never(tree);
+        }
+
+        @Override
+        public Void visitLambdaExpression(LambdaExpressionTree tree, Void none) {
+            return never(tree);
+        }
+
+        @Override
+        public Void visitMemberReference(MemberReferenceTree tree, Void none) {
+            return never(tree);
+        }
+
+        @Override
+        public Void visitImport(ImportTree tree, Void none) {
+            holds(tree + " is listed", IMPORTS.contains(String.valueOf(tree.getQualifiedIdentifier())));
+            return none;
+        }
+
+        @Override
+        public Void visitClass(ClassTree tree, Void none) {
             classes++;
-        }
-        holds("some twelve classes at most", classes <= 12);
-    }
-
-    /** Rows are read and written in four lines alone, each behind a look at row and place. */
-    private void placesAreLookedAt(String source) {
-        String look = "row != null && i >= 0 && i < row.length";
-        int[] found = new int[1];
-        String before = "";
-        for (String line : source.split("\n")) {
-            String bare = line.replaceAll("new (int|long)\\[", "(");
-            if (Pattern.compile("[A-Za-z0-9_)]\\[[^\\]]").matcher(bare).find()) {
-                found[0]++;
-                holds("a place is looked at: " + line, line.contains(look) || before.contains(look));
+            Tree around = getCurrentPath().getParentPath().getLeaf();
+            holds(source.lineOf(tree) + ": no local class, none without a name",
+                    around.equals(source.unit()) || around instanceof ClassTree);
+            for (Tree member : tree.getMembers()) {
+                holds(source.lineOf(member) + ": no static block",
+                        !(member instanceof BlockTree) || !((BlockTree) member).isStatic());
             }
-            before = line;
+            return super.visitClass(tree, none);
         }
-        checks.due("rows are touched in so many lines", found[0], 4);
-    }
 
-    /** Each divisor is a constant, or tested where it divides. */
-    private void divisors(String source) {
-        List<String> fine = List.of("10", "2", "LEVELS", "MOST_WORDS", "people.count", "part", "smaller");
-        Matcher m = Pattern.compile("[/%] *([A-Za-z_.0-9]+)").matcher(source);
-        while (m.find()) {
-            holds("divisor " + m.group(1), fine.contains(m.group(1)));
+        @Override
+        public Void visitMethod(MethodTree tree, Void none) {
+            holds(tree.getName() + " throws nothing", tree.getThrows().isEmpty());
+            holds(tree.getName() + " has some sixty lines at most", source.linesOf(tree) <= MOST_LINES);
+            return super.visitMethod(tree, none);
         }
-        holds("people.count is tested", source.contains("people.count > 0 ? people.jar / people.count"));
-        holds("part is tested", source.contains("if (part <= 0) {"));
-        holds("smaller is tested", source.contains("smaller > 0; step++"));
-    }
 
-    private void methodsAreShort(String source) {
-        int length = 0;
-        for (String line : source.split("\n")) {
-            length = line.matches(" {4}( {4})?(public|private).*\\) \\{") ? 0 : length + 1;
-            if (line.matches(" {4}( {4})?\\}")) {
-                holds("sixty lines at most ahead of the end of a method", length <= 60 || line.equals("    }"));
-            }
+        @Override
+        public Void visitMethodInvocation(MethodInvocationTree tree, Void none) {
+            Element called = source.elementAt(new TreePath(getCurrentPath(), tree.getMethodSelect()));
+            String name = String.valueOf(called.getSimpleName());
+            String owner = String.valueOf(called.getEnclosingElement().getSimpleName());
+            holds(source.lineOf(tree) + ": " + name + " is listed, or the file's own",
+                    isOwn(called) || isListed(owner, name));
+            return super.visitMethodInvocation(tree, none);
         }
-    }
 
-    private void objectsAreMadeInConstructorsAlone(String source) {
-        String inMethods = source.replaceAll("= new (int|long)\\[[A-Z_ *]+\\];", "");
-        int from = inMethods.indexOf("public JarCouncil()");
-        int to = inMethods.indexOf("private static int at(");
-        holds("no call makes an object", from > 0 && to > from
-                && !Pattern.compile("\\bnew\\b").matcher(inMethods.substring(0, from)).find()
-                && !Pattern.compile("\\bnew\\b").matcher(inMethods.substring(to)).find());
-    }
+        private boolean isOwn(Element called) {
+            return called.getEnclosingElement().toString().startsWith("JarCouncil");
+        }
 
-    private static String withoutComments(String source) {
-        return source.replaceAll("(?s)/\\*.*?\\*/", "").replaceAll("//[^\n]*", "");
+        @Override
+        public Void visitBinary(BinaryTree tree, Void none) {
+            boolean isText = tree.getKind() == Tree.Kind.PLUS
+                    && source.typeAt(getCurrentPath()).equals("java.lang.String");
+            holds(source.lineOf(tree) + ": texts are not joined by +", !isText);
+            return super.visitBinary(tree, none);
+        }
+
+        private void hasEnd(Tree loop, ExpressionTree until) {
+            String told = String.valueOf(until);
+            boolean endless = until == null || told.equals("true") || told.equals("(true)");
+            holds(source.lineOf(loop) + ": a loop tells its end", !endless);
+        }
+
+        @Override
+        public Void visitForLoop(ForLoopTree tree, Void none) {
+            hasEnd(tree, tree.getCondition());
+            return super.visitForLoop(tree, none);
+        }
+
+        @Override
+        public Void visitWhileLoop(WhileLoopTree tree, Void none) {
+            hasEnd(tree, tree.getCondition());
+            return super.visitWhileLoop(tree, none);
+        }
+
+        @Override
+        public Void visitDoWhileLoop(DoWhileLoopTree tree, Void none) {
+            hasEnd(tree, tree.getCondition());
+            return super.visitDoWhileLoop(tree, none);
+        }
     }
 }
